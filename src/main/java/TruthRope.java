@@ -25,7 +25,7 @@ public final class TruthRope {
     private static final int BYTES = 0, SHORTS = 1, SORTS = 4, ROW_AS = 10, NO_SHEET = -1, ANY_PLACE = -1;
     private static final int MOST_ODDS = 8, MOST_HOPE = 99, HUNDRED = 100;
 
-    private static final int LEANS = 0, SWAYS = 1, PARTS = 2, TREADS = 3, ACTS = 4;
+    private static final int LEANS = 0, SWAYS = 1, PARTS = 2, ACTS = 4;
     private static final int MOST_TRACED = 30, DEEPEST = 40;
 
     /** By KIND, four each: the body that leans, sways, parts and treads run for it. */
@@ -736,16 +736,16 @@ public final class TruthRope {
     /** All that keep() keeps. There are three of these, made once, so that no try makes an object. */
     private static final class Ring {
         final int[] laws = new int[LAWS];
-        int facts = 0;
-        int stepsTaken = 0;
+        int facts;
+        int stepsTaken;
         int z = 1;
-        int walkers = 0;
+        int walkers;
         final int[] kind = new int[MOST_WALKERS];
         final int[] weight = new int[MOST_WALKERS];
         final int[] place = new int[MOST_WALKERS];
         final int[] yes = new int[MOST_WALKERS];
         final int[] no = new int[MOST_WALKERS];
-        int fallen = 0;
+        int fallen;
 
         Ring() {
             clear();
@@ -864,16 +864,16 @@ public final class TruthRope {
 
     /** One walker alone: none hinders another, so a question about one needn't move the rest. */
     private static final class Trial {
-        int plank = 0;
-        int but = 0;
-        int wit = 0;
-        int stepsTaken = 0;
-        int kind = 0;
-        int weight = 0;
-        int place = 0;
-        int right = 0;
-        int wrong = 0;
-        boolean fallen = false;
+        int plank;
+        int but;
+        int wit;
+        int stepsTaken;
+        int kind;
+        int weight;
+        int place;
+        int right;
+        int wrong;
+        boolean fallen;
 
         void begin(Ring ring, int walker, int facts) {
             plank = ring.laws[PLANK];
@@ -983,11 +983,11 @@ public final class TruthRope {
     /** An act of one thing. After a parting by 0 nothing more is traced, which stands for breaking off at once. */
     private static final class Deed {
         final int[] trace = new int[MOST_TRACED];
-        int traced = 0;
-        boolean parted = false;
-        int kind = 0;
-        int number = 0;
-        int place = 0;
+        int traced;
+        boolean parted;
+        int kind;
+        int number;
+        int place;
 
         void forget() {
             traced = 0;
@@ -1053,10 +1053,10 @@ public final class TruthRope {
         static final int MOST_DIGITS = 3, NO_FAULT = -1, NOT_NAMED = -1;
 
         final byte[] bytes = new byte[TAPE_BYTES];
-        int length = 0;
+        int length;
         int token = END;
-        int from = 0;
-        int next = 0;
+        int from;
+        int next;
         int fault = NO_FAULT;
 
         void append(byte b) {

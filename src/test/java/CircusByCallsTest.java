@@ -128,6 +128,13 @@ public final class CircusByCallsTest {
         Check.due("9: a thinker at 1", x.does(5, 0), 1030);
         x.say(5, 0, 0);
         Check.due("9: a thinker that says nothing", x.does(5, 0), 1080);
+        x.say(5, 4, 0);
+        Check.due("9: a thinker that says what is wrong", x.does(5, 0), 1030);
+        x.say(5, 1, 0);
+        Check.due("9: a thinker that says what is right", x.does(5, 0), 1030);
+        x.say(5, 1, 2);
+        Check.due("9: a thinker that says both", x.does(5, 0), 1030);
+        x.say(5, 0, 0);
         x.stand(5, 20);
         Check.due("9: a thinker at 20", x.does(5, 0), 890);
         x.say(0, 0, 255);

@@ -91,6 +91,21 @@ public final class StepsTest {
                 Check.due("15: z", x.seed(0), second);
             }
         }
+        for (int seed = 0; seed < 50; seed++) {
+            int left = (drawn(drawn(seed)) >>> 16) % 100;
+            TruthRope even = new TruthRope();
+            even.set(3, left);
+            even.seed(seed);
+            even.step();
+            Check.due("15: just DOUBT is not below it, seed " + seed, even.many(3), 0);
+            if (left < 99) {
+                TruthRope below = new TruthRope();
+                below.set(3, left + 1);
+                below.seed(seed);
+                below.step();
+                Check.due("15: one less is, seed " + seed, below.state(3), 1 << (drawn(seed) >>> 16) % 8);
+            }
+        }
         TruthRope y = new TruthRope();
         y.walker(0, 0);
         y.stand(0, 19);
@@ -119,6 +134,13 @@ public final class StepsTest {
         Check.due("16: luck(30)", x.luck(30), want);
         Check.that("16: nothing changed, z neither", before.equals(Check.picture(x)));
         Check.due("16: the same again", x.luck(30), want);
+        z = 1;
+        want = 0;
+        for (int n = 1; n <= 30; n++) {
+            z = drawn(drawn(z));
+            want += (z >>> 16) % 100 < 40 ? 1 : 0;
+            Check.due("16: luck(" + n + ")", x.luck(n), want);
+        }
         x.set(3, 0);
         Check.due("16: without doubt", x.luck(30), 0);
         x.set(3, 99);

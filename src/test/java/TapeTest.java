@@ -81,12 +81,30 @@ public final class TapeTest {
         for (int what = 0; what <= 5; what++) {
             Check.due("3: of a new one " + what, x.of(0, what), fresh[what]);
         }
+        x.walker(0, 9);
+        x.stand(0, 9);
+        x.stand(1, 9);
+        x.say(1, 1, 2);
+        x.steps(1);
+        x.luck(3);
+        Check.circus(x, "fact 0;");
+        Check.due("3: STEP as at first", x.state(0), 0);
+        Check.due("3: none has fallen", x.state(2), 0);
+        x.walker(0, 1);
+        x.walker(0, 1);
+        Check.due("7: at place 0", x.of(0, 2) + x.of(1, 2), 0);
+        Check.due("7: of no facts", x.of(1, 3) + x.of(1, 4), 0);
+        Check.due("7: not fallen", x.of(0, 5) + x.of(1, 5), 0);
         Check.circus(x, "plank 1; plank 2; fact 1; fact 1;");
         Check.due("3: the latest law", x.lawOf(0), 2);
         Check.due("3: a fact told twice", x.state(3), 2);
     }
 
     private static void whatStays() {
+        TruthRope fresh = new TruthRope();
+        fresh.seed(-31);
+        Check.circus(fresh, "walker;");
+        Check.due("3: z stays", fresh.seed(0), -31);
         TruthRope x = new TruthRope();
         x.walker(0, 0);
         x.walker(2, 0);
@@ -136,6 +154,7 @@ public final class TapeTest {
         faultAt("walker weight", 13);
         faultAt("walker weight ;", 14);
         faultAt("walker weight 100;", 14);
+        faultAt("walker weight a;", 14);
         faultAt("walker weight 0001;", 14);
         faultAt("walker weight 1 2;", 16);
         faultAt("walker weight 1 weight 1;", 16);
@@ -153,6 +172,13 @@ public final class TapeTest {
         faultAt("walker 5;", 7);
         faultAt("walkers;", 0);
         faultAt("walke;", 0);
+        faultAt("walkerz;", 0);
+        faultAt("walkera;", 0);
+        faultAt("xalker;", 0);
+        faultAt("zact 1;", 0);
+        faultAt("walker 123456;", 7);
+        faultAt("6666 1;", 0);
+        faultAt("fact 1;z", 7);
         faultAt("Walker;", 0);
         faultAt("wAlker;", 0);
         faultAt("walker;;", 7);
@@ -211,6 +237,14 @@ public final class TapeTest {
         Check.due("3: a ninth", Check.circus(x, eight + " saint weight 1000"), -100 - eight.length() - 1);
         Check.due("3: eight still", x.many(0), 8);
         Check.due("3: eight, and what is none", Check.circus(x, eight + "fact 3;"), 8);
+        Check.circus(x, "clown at 20;");
+        Check.circus(x, "fact 3;");
+        Check.due("3: from one across to none", x.state(1), 0);
+        Check.circus(x, "walkers");
+        Check.due("3: the end of a text that was longer before", Check.circus(x, "walker"), -106);
+        Check.circus(x, "fact 123");
+        Check.due("3: also in a number", Check.circus(x, "fact 1"), -106);
+        Check.due("3: and of one told whole", Check.circus(x, "walker;"), 1);
         Check.due("3: from eight to none", Check.circus(x, "fact 3;"), 0);
         StringBuilder full = new StringBuilder();
         while (full.length() < 200) {

@@ -156,6 +156,7 @@ public final class TriedTest {
         TruthRope x = new TruthRope();
         x.walker(0, 0);
         Check.due("23: a jester goes farthest", x.kindFor(0, 3), 3);
+        Check.due("23: also by 1", x.kindFor(0, 1), 3);
         Check.due("23: of several the least", x.kindFor(0, 10), 1);
         Check.due("23: also with walkers", x.kindFor(0, 30), 0);
         x.say(0, 15, 0);
@@ -182,6 +183,7 @@ public final class TriedTest {
         Check.due("24: two that would do, but for the other's but", x.turnedFor(0, 5), TruthRope.NONE);
         x.mind(0, 0, 5);
         Check.due("24: the least of two", x.turnedFor(0, 5), 5);
+        Check.due("24: also by 1", x.turnedFor(0, 1), 5);
         x.fact(5, 1);
         Check.due("24: it goes as it is", x.turnedFor(0, 5), TruthRope.NONE);
         x.mind(0, 1, 5);
@@ -209,6 +211,9 @@ public final class TriedTest {
         Check.due("25: of what is wrong", x.loadFor(0, 30), TruthRope.NONE);
         x.stand(0, 20);
         Check.due("25: one across", x.loadFor(0, 1), 99);
+        x.stand(0, 19);
+        x.say(0, 0, 1);
+        Check.due("25: by 1", x.loadFor(0, 1), 8);
         x.mind(0, 4, 3);
         x.stand(0, 0);
         x.say(0, 0, 255);
