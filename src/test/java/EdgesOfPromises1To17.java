@@ -138,11 +138,35 @@ final class EdgesOfPromises1To17 {
             int ninth = kind;
             s.refuses(Busy::withEightWalkers, "a ninth of KIND " + kind, y -> y.walker(ninth, 99), FULL);
         }
-        TruthRope after = Busy.circus();
-        after.again();
-        for (int i = 2; i < 8; i++) {
-            s.gives("where others had been", after.walker(0, 1), i);
-            s.gives("PLACE, SAYING and FALLEN", after.of(i, 2) + after.of(i, 3) + after.of(i, 4) + after.of(i, 5), 0);
+        TruthRope back = Busy.circus();
+        back.again();
+        asNew(s, back, 2);
+        TruthRope told = new TruthRope();
+        Check.circus(told, "saint weight 99 at 9 says 3 denies 4;".repeat(5));
+        told.steps(1);
+        Check.circus(told, "walker weight 1 at 3;");
+        asNew(s, told, 1);
+        for (int i = 0; i < 8; i++) {
+            told.say(i, 1, 128);
+            told.stand(i, 20 - i);
+        }
+        Check.circus(told, "");
+        asNew(s, told, 0);
+        TruthRope fallen = new TruthRope();
+        fallen.keep();
+        Check.circus(fallen, "walker says 1 denies 2;clown says 4;");
+        fallen.steps(1);
+        fallen.again();
+        asNew(s, fallen, 0);
+    }
+
+    /** All that come where others had been are as new ones are. */
+    private static void asNew(Sentence s, TruthRope x, int has) {
+        for (int i = has; i < 8; i++) {
+            s.gives("where others had been", x.walker(0, 1), i);
+            for (int what = 2; what <= 5; what++) {
+                s.gives("of " + i + ", what " + what, x.of(i, what), 0);
+            }
         }
     }
 

@@ -90,6 +90,7 @@ final class EdgesOfThings {
             s.gives("a walker sways, " + x, onShelf(0, 7, 20).act(0, 1, x), wrapped(lean + 20));
             s.gives("a walker treads, " + x, onShelf(0, 7, 20).act(0, 3, x), wrapped(lean + 20) ^ 110);
             s.gives("a clown sways, " + x, onShelf(1, 7, 20).act(0, 1, x), wrapped(-(lean + 20)));
+            s.gives("a clown treads, " + x, onShelf(1, 7, 20).act(0, 3, x), wrapped(-(lean + 20)) ^ 110);
             s.gives("a child leans, " + x, onShelf(2, 7, 20).act(0, 0, x), wrapped(lean + 7));
             s.gives("a child treads, " + x, onShelf(2, 7, 20).act(0, 3, x), wrapped((long) (wrapped(lean + 27) ^ 110)));
             s.gives("a jester leans, " + x, onShelf(3, 7, 20).act(0, 0, x), leans ^ 3);
@@ -191,6 +192,9 @@ final class EdgesOfThings {
         x.mind(1, 5, 0);
         x.act(0, 2, 1);
         traced(s, "a thinker parts", x, 61, 12, 10);
+        x.mind(1, 1, 0);
+        x.act(0, 3, 1);
+        traced(s, "a clown treads", x, 13, 20, 11, 10);
         x.act(0, 4, 1);
         traced(s, "no such act", x);
     }

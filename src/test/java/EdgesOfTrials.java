@@ -8,6 +8,7 @@ final class EdgesOfTrials {
     static void look() {
         nothingChanges();
         reaches();
+        fromAnOddStep();
         overFallsAndEnd();
         sayFor();
         kindFor();
@@ -64,6 +65,31 @@ final class EdgesOfTrials {
             s.gives("one ACROSS by " + n, one(0, 99, 20).reaches(0, n), 20);
             s.gives("one that has FALLEN by " + n, fallen(7).reaches(0, n), 7);
         }
+    }
+
+    /** What is tried begins at the STEP that is now: a jester STRIDES by whether that is even. */
+    private static void fromAnOddStep() {
+        TruthRope x = one(3, 0, 0);
+        x.steps(1);
+        x.stand(0, 0);
+        Sentence s = new Sentence("2", "its PLACE behind n STEPS");
+        for (int n = 0; n <= 60; n++) {
+            s.gives("a jester from STEP 1 by " + n, x.reaches(0, n), Math.min(20, 5 * (n / 2) + 2 * (n % 2)));
+        }
+        x.stand(0, 17);
+        s.gives("STEPS from 17 at STEP 1", x.over(0), 2).gives("END", x.end(), 2)
+            .gives("SAY FOR", x.sayFor(0, 1), NONE).gives("LOAD FOR", x.loadFor(0, 1), NONE)
+            .gives("KIND FOR, a clown goes as far", x.kindFor(0, 1), 1);
+        told(x, 0, 19, 20);
+        s.gives("FITS", x.fits(0, 0, 0), 256);
+        x.prove(0, 2);
+        s.gives("ROWS", x.row(0, 0) * 100 + x.row(1, 0), 1920);
+        x.steps(1);
+        x.stand(0, 17);
+        s.gives("STEPS from 17 at STEP 2", x.over(0), 1).gives("END", x.end(), 1)
+            .gives("SAY FOR", x.sayFor(0, 1), 0).gives("LOAD FOR", x.loadFor(0, 1), 2)
+            .gives("KIND FOR, a jester alone", x.kindFor(0, 1), 3).gives("FITS", x.fits(0, 0, 0), 0)
+            .gives("ROWS are wrong", x.judge(0), 1);
     }
 
     private static void overFallsAndEnd() {
@@ -239,6 +265,14 @@ final class EdgesOfTrials {
             x.say(i, 1 << i, 255 & ~(1 << i));
         }
         s.gives("each clashes with each", x.state(5), 1);
+        for (int fact = 0; fact < 8; fact++) {
+            for (int i = 0; i < 8; i++) {
+                x.say(i, 0, 1 << fact);
+            }
+            s.gives("all deny FACT " + fact, x.state(5), 8);
+            x.say(3, 1 << fact, 0);
+            s.gives("one alone says FACT " + fact, x.state(5), 7);
+        }
         for (int i = 0; i < 8; i++) {
             x.say(i, 255, 0);
         }
@@ -398,13 +432,13 @@ final class EdgesOfTrials {
             int which = (int) (drawn(once(seed)) % 8);
             factSeen[which] = true;
             leftSeen[left] = true;
-            for (int law = Math.max(0, left); law <= Math.min(99, left + 1); law++) {
+            for (int law : new int[] {0, left, Math.min(99, left + 1), 99}) {
                 TruthRope x = new TruthRope();
                 x.set(3, law);
                 x.seed(seed);
                 x.step();
                 fact.gives("DOUBT " + law + " from " + seed, x.state(3), left < law ? 1 << which : 0);
-                x.seed(seed);
+                doubt.gives("two draws, DOUBT " + law + " from " + seed, x.seed(seed), twice(seed));
                 x.step();
                 doubt.gives("DOUBT " + law + " from " + seed + " again", x.state(3), 0);
                 doubt.gives("two STEPS", x.state(0), 2);
@@ -448,7 +482,10 @@ final class EdgesOfTrials {
         fewer.set(0, 9);
         fewer.set(1, 0);
         fewer.set(3, 99);
-        s.gives("fewer FALLEN, or as many, count nothing", fewer.luck(30), 0);
+        for (int doubt : new int[] {0, 1, 50, 99}) {
+            fewer.set(3, doubt);
+            s.gives("fewer FALLEN, or as many, count nothing, DOUBT " + doubt, fewer.luck(30), 0);
+        }
         s.refuses("changes nothing", y -> y.luck(30) * 0, 0);
     }
 }
