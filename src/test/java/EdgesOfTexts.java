@@ -180,6 +180,25 @@ final class EdgesOfTexts {
         faultAt(s, "walkerclown;", 0);
         faultAt(s, "factfact 1;", 0);
         faultAt(s, "walker weightat 5;", 7);
+        String[] all = {"walker", "clown", "child", "jester", "saint", "thinker", "fact", "plank", "but", "wit", "doubt"};
+        for (String name : all) {
+            for (int i = 0; i < name.length(); i++) {
+                String other = name.substring(0, i) + "q" + name.substring(i + 1);
+                faultAt(s, other + " 1;", 0);
+                faultAt(s, name.substring(0, i) + name.substring(i + 1) + " 1;", 0);
+            }
+            faultAt(s, "q" + name + " 1;", 0);
+            faultAt(s, name + "q 1;", 0);
+        }
+        for (String name : new String[] {"weight", "at", "says", "denies"}) {
+            faultAt(s, "saint " + name + " a;", 7 + name.length());
+            for (int i = 0; i < name.length(); i++) {
+                faultAt(s, "saint " + name.substring(0, i) + "q" + name.substring(i + 1) + " 1;", 6);
+            }
+        }
+        for (String name : new String[] {"fact", "plank", "but", "wit", "doubt"}) {
+            faultAt(s, name + " a;", 1 + name.length());
+        }
         faultAt(s, "walke r;", 0);
         faultAt(s, "w;", 0);
         faultAt(s, "walkerz;", 0);
