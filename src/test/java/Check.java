@@ -5,6 +5,9 @@ final class Check {
     private static int looked = 0;
     private static int wrong = 0;
 
+    /** For BreaksTest, which only wants to know whether a test notices, and must not be ended by it. */
+    static boolean stopsAtFirst = false;
+
     private Check() {
     }
 
@@ -12,6 +15,9 @@ final class Check {
         looked++;
         if (got != want) {
             wrong++;
+            if (stopsAtFirst) {
+                throw new AssertionError(call);
+            }
             System.out.println("  " + call + " answered " + got + ", due is " + want);
         }
     }
