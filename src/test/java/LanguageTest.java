@@ -12,6 +12,7 @@ import com.sun.source.tree.MemberReferenceTree;
 import com.sun.source.tree.MemberSelectTree;
 import com.sun.source.tree.MethodInvocationTree;
 import com.sun.source.tree.MethodTree;
+import com.sun.source.tree.NewClassTree;
 import com.sun.source.tree.SynchronizedTree;
 import com.sun.source.tree.ThrowTree;
 import com.sun.source.tree.Tree;
@@ -19,11 +20,18 @@ import com.sun.source.tree.TryTree;
 import com.sun.source.tree.VariableTree;
 import com.sun.source.util.JavacTask;
 import com.sun.source.util.SourcePositions;
+import com.sun.source.util.TreePathScanner;
 import com.sun.source.util.TreeScanner;
 import com.sun.source.util.Trees;
 import java.io.File;
+import java.util.ArrayList;
 import java.util.HashSet;
+import java.util.LinkedHashMap;
+import java.util.LinkedHashSet;
+import java.util.List;
+import java.util.Map;
 import java.util.Set;
+import javax.lang.model.element.ExecutableElement;
 import javax.lang.model.element.Modifier;
 import javax.tools.JavaCompiler;
 import javax.tools.StandardJavaFileManager;
@@ -46,6 +54,13 @@ public final class LanguageTest {
             names.scan(unit, null);
             new Rules(unit, Trees.instance(task).getSourcePositions(), names).scan(unit, null);
             Check.that("rule 11: some twelve classes at most", names.classes <= 12);
+            task.analyze();
+            Calls calls = new Calls(Trees.instance(task));
+            calls.scan(unit, null);
+            for (ExecutableElement method : calls.of.keySet()) {
+                Check.that("rule 11: how deep " + method + " goes", calls.depth(method, new ArrayList<>()) <= 8);
+            }
+            Check.due("rule 8: methods that call themselves", calls.recursive.size(), 1);
         }
         Check.finish();
     }
@@ -67,6 +82,61 @@ public final class LanguageTest {
             boolean isPublic = node.getModifiers().getFlags().contains(Modifier.PUBLIC);
             (isPublic ? open : own).add(node.getName().toString());
             return super.visitMethod(node, unused);
+        }
+    }
+
+    /** Which own methods and constructors each one calls. */
+    private static final class Calls extends TreePathScanner<Void, Void> {
+        final Map<ExecutableElement, Set<ExecutableElement>> of = new LinkedHashMap<>();
+        final Set<ExecutableElement> recursive = new HashSet<>();
+        private final Trees trees;
+        private ExecutableElement in = null;
+
+        Calls(Trees trees) {
+            this.trees = trees;
+        }
+
+        /** How many calls stand open at most; one that calls itself, or one that calls it, is no deeper by that. */
+        int depth(ExecutableElement method, List<ExecutableElement> open) {
+            int deepest = 0;
+            open.add(method);
+            for (ExecutableElement called : of.getOrDefault(method, Set.of())) {
+                if (open.contains(called)) {
+                    recursive.add(called);
+                } else {
+                    deepest = Math.max(deepest, depth(called, open));
+                }
+            }
+            open.remove(open.size() - 1);
+            return deepest + 1;
+        }
+
+        @Override
+        public Void visitMethod(MethodTree node, Void unused) {
+            in = (ExecutableElement) trees.getElement(getCurrentPath());
+            of.put(in, new LinkedHashSet<>());
+            super.visitMethod(node, unused);
+            in = null;
+            return null;
+        }
+
+        @Override
+        public Void visitMethodInvocation(MethodInvocationTree node, Void unused) {
+            note();
+            return super.visitMethodInvocation(node, unused);
+        }
+
+        @Override
+        public Void visitNewClass(NewClassTree node, Void unused) {
+            note();
+            return super.visitNewClass(node, unused);
+        }
+
+        private void note() {
+            if (in != null && trees.getElement(getCurrentPath()) instanceof ExecutableElement called
+                    && trees.getTree(called) != null) {
+                of.get(in).add(called);
+            }
         }
     }
 
